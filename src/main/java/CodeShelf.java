@@ -344,7 +344,7 @@ public final class CodeShelf {
         return (a << (2 * LETTER_BITS)) + (b << LETTER_BITS) + c;
     }
 
-    /** The trigram that begins at place i of a text, which has two characters behind it, or NONE. */
+    /** The trigram at place i, behind which the text has two characters more, or NONE. */
     private int trigramAt(int slot, int i) {
         int base = slot * TEXT + i;
         int a = chars[base];
@@ -549,6 +549,10 @@ public final class CodeShelf {
 
     // ---- reading the expression
 
+    private static boolean isInClass(int members, int letter) {
+        return ((members >> letter) & 1) == 1;
+    }
+
     private static boolean isToken(int kind, int a, int b) {
         switch (kind) {
             case LETTER: return isLetter(a);
@@ -727,10 +731,10 @@ public final class CodeShelf {
     private void learnClass(int n) {
         int letters = 0;
         for (int l = 0; l < LETTERS; l++) {
-            letters += (nodeA[n] >> l) & 1;
+            letters += isInClass(nodeA[n], l) ? 1 : 0;
         }
         for (int l = 0; l < LETTERS && letters <= 3; l++) {
-            if (((nodeA[n] >> l) & 1) == 1) {
+            if (isInClass(nodeA[n], l)) {
                 addRow(n * SETS, (1L << LENGTH_SHIFT) + l);
             }
         }
@@ -956,7 +960,7 @@ public final class CodeShelf {
         int right = nodeRight[n];
         long ends = reach[left * PLACES + i];
         switch (nodeKind[n]) {
-            case CLASS: return i < length && ((nodeA[n] >> chars[from + i]) & 1) == 1 ? here << 1 : 0;
+            case CLASS: return i < length && isInClass(nodeA[n], chars[from + i]) ? here << 1 : 0;
             case EMPTY: return here;
             case BEGIN: return i == 0 ? here : 0;
             case END: return i == length ? here : 0;

@@ -22,6 +22,7 @@ public final class PromisesTest {
         promise9();
         promise10();
         promise11();
+        promise11FullShelf();
         promise12();
         promise13();
         promise14();
@@ -479,6 +480,41 @@ public final class PromisesTest {
             due("the number", x.segment(0, 4), n);
             due("bits of " + (n + 1), x.segment(0, 3), bits[n]);
         }
+    }
+
+    private static void keepAll(CodeShelf x, int first, int last) {
+        for (int f = first; f <= last; f++) put(x, f, "00" + f % 6);
+        x.sync();
+    }
+
+    /** As many segments and documents as there can be: 10, 9, .., 1, and then six more. */
+    private static void promise11FullShelf() {
+        CodeShelf x = new CodeShelf();
+        for (int most = 9; most >= 6; most--) {
+            keepAll(x, 0, 5);
+            keepAll(x, most - 5, most);
+        }
+        for (int most = 5; most >= 0; most--) keepAll(x, 0, most);
+        due("segments", x.state(1), 10);
+        int start = 0;
+        for (int k = 0; k < 10; k++) {
+            due("documents of " + k, x.segment(k, 0), 10 - k);
+            due("live ones of " + k, x.segment(k, 1), 1);
+            due("the live one's file", x.document(start + 9 - k, 1), 9 - k);
+            due("its segment", x.document(start + 9 - k, 3), k);
+            due("it is live", x.document(start + 9 - k, 2), 1);
+            start += 10 - k;
+        }
+        due("documents", start, 55);
+        due("the last one", x.document(54, 0), 68);
+        due("no more", x.document(55, 0), NONE);
+        due("made", x.state(2), 69);
+        keepAll(x, 4, 9);
+        due("all merged", x.state(1), 1);
+        due("all live", x.segment(0, 0), 10);
+        for (int f = 0; f < 4; f++) due("the number", x.file(f, 3), new int[] {68, 67, 65, 62}[f]);
+        for (int f = 4; f < 10; f++) due("the number", x.file(f, 3), 65 + f);
+        due("lists", x.segment(0, 2), 6);
     }
 
     private static void promise12() {
