@@ -824,6 +824,11 @@ public final class PromisesTest {
         opens("([012][012][012])", "", true);
         opens("5[012].?5[012]", "", true);
         opens("([012]+|[345]+)([012]+|[345]+)", "", true);
+        // HEADS that were nine are no other row than the empty one: before them six rows stay six
+        opens("11(([012]|[345])([012][345]+))", "11", false);
+        opens("11(([012]|[345])([012][345]+))", "114", true);
+        opens("(([012]+[345])([012]|[345]))11", "11", false);
+        opens("(([012]+[345])([012]|[345]))11", "411", true);
         // TAILS with nine rows are the empty row, while HEADS of six stay
         opens("55([01][01]*[012][345])55", "", false);
         opens("55([01][01]*[012][345])55", "550", true);
