@@ -1,25 +1,27 @@
 /** Counts answers that are not the due ones, and tells each. */
 final class Check {
-    private final String name;
     private int wrong = 0, asked = 0;
-
-    Check(String name) {
-        this.name = name;
-    }
 
     void due(String what, long got, long want) {
         asked++;
         if (got == want) return;
         wrong++;
-        System.out.println(name + ": " + what + " answered " + got + ", due is " + want);
+        System.out.println(what + " answered " + got + ", due is " + want);
     }
 
     void due(String what, boolean got, boolean want) {
         due(what, got ? 1 : 0, want ? 1 : 0);
     }
 
+    void due(String what, String got, String want) {
+        asked++;
+        if (got.equals(want)) return;
+        wrong++;
+        System.out.println(what + " answered " + got + ", due is " + want);
+    }
+
     /** Ends the program, with exit code 1 if one answer was wrong. */
-    void end() {
+    void end(String name) {
         System.out.println(name + ": " + asked + " answers looked at, " + wrong + " wrong");
         System.exit(wrong == 0 ? 0 : 1);
     }

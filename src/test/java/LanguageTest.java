@@ -18,7 +18,7 @@ import java.util.regex.Pattern;
  * source without understanding it. Run from the project's folder.
  */
 public final class LanguageTest {
-    private static final Check CHECK = new Check("LanguageTest");
+    private static final Check CHECK = new Check();
     private static final Set<String> NO_CALLS = Set.of("if", "for", "while", "switch", "return", "CodeShelf");
 
     public static void main(String[] args) throws Exception {
@@ -31,7 +31,7 @@ public final class LanguageTest {
         Map<String, String> bodies = bodies(code);
         bodies.forEach(LanguageTest::nestedCalls);
         depths(bodies);
-        CHECK.end();
+        CHECK.end("LanguageTest");
     }
 
     private static void face() throws Exception {

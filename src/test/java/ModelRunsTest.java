@@ -25,11 +25,11 @@ public final class ModelRunsTest {
     }
 
     public static void main(String[] args) {
-        Check check = new Check("ModelRunsTest");
+        Check check = new Check();
         for (int seed = 0; seed < RUNS && !check.failed(); seed++) {
             new ModelRunsTest(check, seed).run();
         }
-        check.end();
+        check.end("ModelRunsTest");
     }
 
     private void same(String call, int got, int want) {

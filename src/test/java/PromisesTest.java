@@ -2,12 +2,7 @@
  * One method for each promise of the document: ordinary inputs, the edges that it names, and
  * wrong inputs, with the answers written down by hand from its words.
  */
-public final class PromisesTest {
-    private static final int NONE = -1, REFUSED = -1, SYNTAX = -2, LARGE = -3;
-    private static final int LOW = Integer.MIN_VALUE, HIGH = Integer.MAX_VALUE;
-
-    private static final Check CHECK = new Check("PromisesTest");
-
+public final class PromisesTest extends Asking {
     public static void main(String[] args) {
         constants();
         promise1();
@@ -37,81 +32,7 @@ public final class PromisesTest {
         promise17();
         promise18();
         promise19();
-        CHECK.end();
-    }
-
-    private static void due(String what, long got, long want) {
-        CHECK.due(what, got, want);
-    }
-
-    // ---- short ways to say texts and expressions
-
-    private static void draft(CodeShelf x, String text) {
-        for (int i = 0; i < text.length(); i++) x.type(text.charAt(i) - '0');
-    }
-
-    private static int put(CodeShelf x, int f, String text) {
-        draft(x, text);
-        return x.keep(f);
-    }
-
-    /**
-     * An expression of letters 0..5, . for ANY, [135] for CLASS, {12} for COUNT 1 2, and
-     * ( ) | * + ? ^ $ as they are.
-     */
-    private static void express(CodeShelf x, String expression) {
-        x.wipe();
-        int tokens = 0;
-        for (int i = 0; i < expression.length(); i++) {
-            char c = expression.charAt(i);
-            int kind = "0.[()|*+?{^$".indexOf(c), a = 0, b = 0;
-            if (c >= '0' && c <= '5') {
-                kind = 0;
-                a = c - '0';
-            }
-            if (c == '[') for (i++; expression.charAt(i) != ']'; i++) a |= 1 << (expression.charAt(i) - '0');
-            if (c == '{') {
-                a = expression.charAt(i + 1) - '0';
-                b = expression.charAt(i + 2) - '0';
-                i += 3;
-            }
-            tokens++;
-            due("token of " + expression, x.token(kind, a, b), tokens);
-        }
-    }
-
-    private static int search(CodeShelf x, String expression) {
-        express(x, expression);
-        return x.search();
-    }
-
-    /** The matches of an expression in a single file, as "line:begin-end line:begin-end ..". */
-    private static void matches(String expression, String text, String want) {
-        CodeShelf x = new CodeShelf();
-        put(x, 3, text);
-        int n = search(x, expression);
-        StringBuilder got = new StringBuilder();
-        for (int k = 0; k < n; k++) {
-            if (k > 0) got.append(' ');
-            got.append(x.hit(k, 1)).append(':').append(x.hit(k, 2)).append('-').append(x.hit(k, 3));
-            due(expression + " hit(" + k + ", 0)", x.hit(k, 0), 3);
-        }
-        if (!got.toString().equals(want)) {
-            System.out.println(expression + " in " + text + ": " + got + ", due is " + want);
-        }
-        due("the matches of " + expression + " in " + text, got.toString().equals(want) ? 1 : 0, 1);
-    }
-
-    private static void opens(String expression, String text, boolean want) {
-        CodeShelf x = new CodeShelf();
-        put(x, 7, text);
-        search(x, expression);
-        CHECK.due("opened by " + expression + " with " + text, x.opened(7), want);
-    }
-
-    private static void answers(String expression, int want) {
-        CodeShelf x = new CodeShelf();
-        due("search of " + expression, search(x, expression), want);
+        CHECK.end("PromisesTest");
     }
 
     // ---- the promises
@@ -680,12 +601,6 @@ public final class PromisesTest {
         nothingFound(x);
     }
 
-    private static void nothingFound(CodeShelf x) {
-        due("nothing is found", x.hit(0, 0), NONE);
-        for (int f = 0; f < 10; f++) CHECK.due("nothing is opened", x.opened(f), false);
-        due("nothing is read", x.state(4), 0);
-    }
-
     private static void promise15Opens() {
         opens("", "", true);
         opens("^$", "", true);
@@ -836,13 +751,6 @@ public final class PromisesTest {
         opens("55([01][01]*[012][34])55", "5506035", false);
         opens("55([01][01]*[012][34])55", "55060355", true);
         opens("55([01][01]*[012][34])55", "55060346345", false);
-    }
-
-    private static void syntax(String expression, int want) {
-        CodeShelf x = new CodeShelf();
-        put(x, 0, "0");
-        due("search of " + expression, search(x, expression), SYNTAX);
-        due("place of " + expression, x.place(), want);
     }
 
     private static void promise16() {
