@@ -23,6 +23,8 @@ public final class BoundarySearchTest extends Asking {
         rowsOfLessThanThreeLetters();
         allTrigramsOfARow();
         firstAndLastTwoLetters();
+        headsOfSeqs();
+        tailsOfSeqs();
         moreThanEightHeads();
         moreThanEightTails();
         classesOfThreeLetters();
@@ -39,6 +41,7 @@ public final class BoundarySearchTest extends Asking {
         syntaxOrLarge();
         largeParts();
         nothingFoundThen();
+        searchesAreApart();
         firstWrongToken();
         placeBehindAll();
         placeElseNone();
@@ -361,6 +364,11 @@ public final class BoundarySearchTest extends Asking {
         opens("(012)+55", "0126255", false);
         opens("55()+", "", true);
         opens("55()+5", "", true);
+        // no more than two: the third letter of the one word need not stand behind 55
+        opens("55(012|345)+", "55016345", true);
+        opens("55(012|345)+", "5501", false);
+        opens("(012|345)+(55)", "01264555", true);
+        opens("(012|345)+(55)", "4555", false);
         // HEADS of a seq: all of a row that has less than two letters
         opens("55((0|)1+)", "551", true);
         opens("55((0|)1+)", "5506501", true);
@@ -368,6 +376,34 @@ public final class BoundarySearchTest extends Asking {
         opens("(1+(0|))(55)", "155", true);
         opens("(1+(0|))(55)", "1056055", true);
         opens("(1+(0|))(55)", "055", false);
+    }
+
+    /** "HEADS are, if WORDS of x are known, the first two letters (all, if less) of the rows .., else HX" */
+    private static void headsOfSeqs() {
+        opens("33(5(04)+)", "3356504", false);
+        opens("33(5(04)+)", "33563506504", true);
+        opens("33(5+(04)+)", "3356504", true);
+        opens("33(5(041)+)", "335635065046041", true);
+        opens("33(5(041)+)", "335635465046041", false);
+        opens("2((23|45)[01]+)", "2236450", true);
+        opens("2((23|45)[01]+)", "2236235", false);
+        opens("55(01+|23+)", "5506501", true);
+        opens("55(01+|23+)", "5526523", true);
+        opens("55(01+|23+)", "5516553", false);
+    }
+
+    /** "TAILS are, if WORDS of y are known, the last two of the rows of one of TX and one of these, else TY" */
+    private static void tailsOfSeqs() {
+        opens("((40)+5)(33)", "4056533", false);
+        opens("((40)+5)(33)", "40560536533", true);
+        opens("((40)+5+)(33)", "4056533", true);
+        opens("([01]+(23|45))2", "0236452", true);
+        opens("([01]+(23|45))2", "0236352", false);
+        opens("(5(012)+)(33)", "501601261236233", true);
+        opens("(5(012)+)(33)", "501601260136133", false);
+        opens("(0+1|2+3)(55)", "0156155", true);
+        opens("(0+1|2+3)(55)", "2356355", true);
+        opens("(0+1|2+3)(55)", "0556255", false);
     }
 
     /** "Each time when HEADS would be more than 8 rows, they are just the empty row" */
@@ -458,10 +494,18 @@ public final class BoundarySearchTest extends Asking {
         opens("(01[012]|01[345]|02[01])5", "0106105", true);
         opens("(01[012]|01[345]|02[012])5", "010", true);
         opens("(01[012]|01[345]|02[012])5", "", false);
+        opens("5(01[012]|01[345]|02[012])", "010", false);
+        opens("5(01[012]|01[345]|02[012])", "0106502", true);
         // six different ones, some of them twice
         opens("(01[012]|01[345]|01[012])5", "010", false);
-        // nine are not known, so a tenth doesn't matter, nor one that is there already
+        // nine are not known, nor are they with one more
         opens("(01[012]|01[345]|02[012]|0)", "", true);
+        // of both
+        opens("012|.", "", true);
+        opens(".|012", "", true);
+        opens("012|3+45", "345", true);
+        opens("3+45|012", "012", true);
+        opens("3+45|012", "034", false);
     }
 
     /** seq: "the rows of one of x and one of y behind it are at most 8 different ones" */
@@ -689,6 +733,23 @@ public final class BoundarySearchTest extends Asking {
         search(x, "(((");
         x.search();
         due("told twice", x.place(), 3);
+    }
+
+    /** Promise 15: "Searches by the expression (which stays)": each search as if it were the first. */
+    private static void searchesAreApart() {
+        CodeShelf x = new CodeShelf();
+        put(x, 7, "550601");
+        String[] expressions = {"55([012][012]5+)", "55(01+)", "55(0+)", "0|1", "(", "55[0123]", "012", "0{33}{33}{33}{33}", "",
+            "5+(50)", "0+(50)", "(55)0+", "(55)1+"};
+        int[] want = {0, 0, 1, 3, SYNTAX, 1, 0, LARGE, 7, 1, 0, 1, 0};
+        boolean[] opened = {true, false, true, true, false, true, false, false, true, true, false, true, false};
+        for (int i = 0; i < expressions.length; i++) {
+            due("search of " + expressions[i], search(x, expressions[i]), want[i]);
+            CHECK.due("opened by " + expressions[i], x.opened(7), opened[i]);
+            due("the same again", x.search(), want[i]);
+            CHECK.due("opened again", x.opened(7), opened[i]);
+            due("the blocks", x.state(4), opened[i] ? 1 : 0);
+        }
     }
 
     /** Promise 17: "match k (from 0; the first 40 are kept)" */
